@@ -304,7 +304,7 @@ public final class MatchingGraph {
             // Only an edge that no maximum matching can do without is missed.
             return maxima.having(one, other) == maxima.howMany() ? number - 1 : number;
         }
-        return Math.max(number, maxima.sizeWithout(one, other) + 1);
+        return Math.max(number, maxima.numberWithout(one, other) + 1);
     }
 
     // ---- what there is
@@ -395,17 +395,17 @@ public final class MatchingGraph {
         }
         drawDifferences(maxima.first());
         int cycles = 0;
-        int ways = 0;
+        int openPaths = 0;
         for (int node = 0; node < graph.nodes; node++) {
             int piece = differing.pieceOf(node, graph.all());
             boolean isLowest = Integer.numberOfTrailingZeros(piece) == node;
             if (isLowest && Integer.bitCount(piece) > 1) {
                 boolean closed = differing.hasNoEnd(piece);
                 cycles += closed ? 1 : 0;
-                ways += closed ? 0 : 1;
+                openPaths += closed ? 0 : 1;
             }
         }
-        return what == 0 ? cycles : ways;
+        return what == 0 ? cycles : openPaths;
     }
 
     /** Makes a graph of the edges that are in just one of both matchings. */
@@ -659,11 +659,8 @@ public final class MatchingGraph {
             return size;
         }
 
-        /** Augments along an augmenting path of a length. */
+        /** Augments along a path of a length; each of its nodes gets another mate by it. */
         void swapAlong(int[] path, int length) {
-            for (int place = 1; place < length; place += 2) {
-                part(path[place]);
-            }
             for (int place = 0; place < length; place += 2) {
                 join(path[place], path[place + 1]);
             }
@@ -772,7 +769,7 @@ public final class MatchingGraph {
         private final Matching matching;
         /** The bit of the pair that a node belongs to; 0 if it is exposed. */
         private final int[] pairBit = new int[MOST_NODES];
-        /** For each set of used pairs: the ends that were followed already. */
+        /** For each set of used pairs: the ends of the paths that use these. */
         private final int[] followed = new int[1 << MOST_PAIRS];
         private final int[] wayNodes = new int[MOST_NODES];
         private int evenEnds = 0;
@@ -801,25 +798,29 @@ public final class MatchingGraph {
         void findEnds(int root) {
             numberPairs();
             Arrays.fill(followed, 0);
+            followed[0] = 1 << root;
             evenEnds = 0;
             oddEnds = 0;
-            followToEnds(root, root, 0);
+            // A path that goes on uses one pair more, so its set is a greater number.
+            for (int used = 0; used < followed.length; used++) {
+                evenEnds |= followed[used];
+                for (int end = 0; end < graph.nodes; end++) {
+                    if ((followed[used] >> end & 1) != 0) {
+                        followFrom(end, used, root);
+                    }
+                }
+            }
         }
 
-        /** Goes down once more for each pair at the most, as a pair is used only once. */
-        private void followToEnds(int root, int end, int used) {
-            if ((followed[used] >> end & 1) != 0) {
-                return;
-            }
-            followed[used] |= 1 << end;
-            evenEnds |= 1 << end;
+        private void followFrom(int end, int used, int root) {
             for (int next = 0; next < graph.nodes; next++) {
-                if (next == root || !graph.joined(end, next) || (pairBit[next] & used) != 0) {
+                int bit = pairBit[next];
+                if (next == root || !graph.joined(end, next) || (bit & used) != 0) {
                     continue;
                 }
                 oddEnds |= 1 << next;
-                if (pairBit[next] != 0) {
-                    followToEnds(root, matching.mate[next], used | pairBit[next]);
+                if (bit != 0) {
+                    followed[used | bit] |= 1 << matching.mate[next];
                 }
             }
         }
@@ -883,45 +884,43 @@ public final class MatchingGraph {
         private final int[] ways = new int[1 << MOST_NODES];
         private final Matching first = new Matching();
         private boolean firstIsKnown = false;
-        private int changesSeen = 0;
+        private int changesSeen = NONE;
 
         Maxima(Graph graph) {
             this.graph = graph;
         }
 
-        private void forgetIfChanged() {
-            if (changesSeen != graph.changes) {
-                changesSeen = graph.changes;
-                Arrays.fill(ways, 0);
-                firstIsKnown = false;
+        /** Finds out what all need of the present graph: itself, and itself without one node. */
+        private void learn() {
+            if (changesSeen == graph.changes) {
+                return;
+            }
+            changesSeen = graph.changes;
+            firstIsKnown = false;
+            Arrays.fill(ways, 0);
+            int all = graph.all();
+            findOut(all, 0);
+            for (int node = 0; node < graph.nodes; node++) {
+                findOut(all & ~(1 << node), 0);
             }
         }
 
-        private int sizeIn(int set) {
-            forgetIfChanged();
-            findOut(set);
-            return size[set];
-        }
-
-        private int waysIn(int set) {
-            forgetIfChanged();
-            findOut(set);
-            return ways[set];
-        }
-
-        /** Goes down once more for each node at the most, as the lowest one is left out. */
-        private void findOut(int set) {
+        /** Finds out of a set without nodes below one, which goes up from level to level. */
+        private void findOut(int set, int from) {
             if (ways[set] != 0) {
                 return;
             }
-            if (set == 0) {
+            int lowest = from;
+            while (lowest < graph.nodes && (set >> lowest & 1) == 0) {
+                lowest++;
+            }
+            if (lowest >= graph.nodes) {
                 size[set] = 0;
                 ways[set] = 1;
                 return;
             }
-            int lowest = Integer.numberOfTrailingZeros(set);
             int rest = set & ~(1 << lowest);
-            findOut(rest);
+            findOut(rest, lowest + 1);
             int greatest = size[rest];
             int number = ways[rest];
             int mates = rest & graph.near[lowest];
@@ -930,7 +929,7 @@ public final class MatchingGraph {
                     continue;
                 }
                 int left = rest & ~(1 << mate);
-                findOut(left);
+                findOut(left, lowest + 1);
                 if (size[left] + 1 > greatest) {
                     greatest = size[left] + 1;
                     number = 0;
@@ -941,33 +940,56 @@ public final class MatchingGraph {
             ways[set] = number;
         }
 
+        /** Returns the number of the graph. */
         int number() {
-            return sizeIn(graph.all());
+            learn();
+            return size[graph.all()];
         }
 
+        /** Returns how many maximum matchings there are. */
         int howMany() {
-            return waysIn(graph.all());
-        }
-
-        int sizeWithout(int one, int other) {
-            return sizeIn(graph.all() & ~(1 << one) & ~(1 << other));
+            learn();
+            return ways[graph.all()];
         }
 
         /** Returns how many maximum matchings leave a node exposed. */
         int exposing(int node) {
-            int others = graph.all() & ~(1 << node);
-            return sizeIn(others) == number() ? waysIn(others) : 0;
+            learn();
+            int all = graph.all();
+            int others = all & ~(1 << node);
+            return size[others] == size[all] ? ways[others] : 0;
         }
 
         /** Returns the nodes that some maximum matching leaves exposed. */
         int exposable() {
+            learn();
+            int all = graph.all();
             int found = 0;
             for (int node = 0; node < graph.nodes; node++) {
-                if (exposing(node) > 0) {
+                if (size[all & ~(1 << node)] == size[all]) {
                     found |= 1 << node;
                 }
             }
             return found;
+        }
+
+        boolean isCritical() {
+            learn();
+            int all = graph.all();
+            for (int node = 0; node < graph.nodes; node++) {
+                if (2 * size[all & ~(1 << node)] != graph.nodes - 1) {
+                    return false;
+                }
+            }
+            return true;
+        }
+
+        /** Returns the number of the graph without two nodes. */
+        int numberWithout(int one, int other) {
+            learn();
+            int others = graph.all() & ~(1 << one) & ~(1 << other);
+            findOut(others, 0);
+            return size[others];
         }
 
         /** Returns how many maximum matchings have the edge between two nodes. */
@@ -975,8 +997,11 @@ public final class MatchingGraph {
             if (!graph.joined(one, other)) {
                 return 0;
             }
-            int others = graph.all() & ~(1 << one) & ~(1 << other);
-            return sizeIn(others) + 1 == number() ? waysIn(others) : 0;
+            learn();
+            int all = graph.all();
+            int others = all & ~(1 << one) & ~(1 << other);
+            findOut(others, 0);
+            return size[others] + 1 == size[all] ? ways[others] : 0;
         }
 
         /** Counts the edges that just so many maximum matchings have. */
@@ -992,18 +1017,9 @@ public final class MatchingGraph {
             return found;
         }
 
-        boolean isCritical() {
-            for (int node = 0; node < graph.nodes; node++) {
-                if (2 * sizeIn(graph.all() & ~(1 << node)) != graph.nodes - 1) {
-                    return false;
-                }
-            }
-            return true;
-        }
-
         /** Returns the first maximum matching. */
         Matching first() {
-            forgetIfChanged();
+            learn();
             if (!firstIsKnown) {
                 findFirst();
                 firstIsKnown = true;
@@ -1028,13 +1044,16 @@ public final class MatchingGraph {
 
         /** Returns the least mate of the lowest node of a set in its maximum matchings. */
         private int leastMate(int lowest, int set) {
+            findOut(set, lowest);
             int mates = graph.near[lowest] & set;
             for (int mate = lowest + 1; mate < graph.nodes; mate++) {
-                if ((mates >> mate & 1) != 0) {
-                    int others = set & ~(1 << lowest) & ~(1 << mate);
-                    if (sizeIn(others) + 1 == sizeIn(set)) {
-                        return mate;
-                    }
+                if ((mates >> mate & 1) == 0) {
+                    continue;
+                }
+                int others = set & ~(1 << lowest) & ~(1 << mate);
+                findOut(others, lowest + 1);
+                if (size[others] + 1 == size[set]) {
+                    return mate;
                 }
             }
             return NONE;

@@ -80,6 +80,9 @@ public final class EditTest {
         MatchingGraph y = Check.made(5, "ad,bc!,cd,be");
         Check.due("the lowest node first", y.maximize(), 1);
         Check.due("its shortest way", State.edges(y), "5: ad! bc! be cd");
+        MatchingGraph lowest = Check.made(3, "ac,bc");
+        lowest.maximize();
+        Check.due("node 0 comes first", State.edges(lowest), "3: ac! bc");
         MatchingGraph z = Check.made(6, "bc,cd!,de,af");
         z.setEdge(0, 5, false);
         Check.due("an exposed node without a way is passed over", z.maximize(), 1);

@@ -3,7 +3,7 @@ import java.util.Random;
 /** Long runs of calls, drawn with fixed seeds, whose answers are compared with the plain telling. */
 public final class ReferenceTest {
     /** Each step makes up to 5 calls, and an object is good for 512. */
-    private static final int STEPS = 100;
+    private static final int STEPS = 90;
 
     private final Random random;
     private final MatchingGraph x = new MatchingGraph();
@@ -23,13 +23,14 @@ public final class ReferenceTest {
             new ReferenceTest(seed, seed % 3 == 0 ? 12 : seed % 3 == 1 ? 9 : 6).run();
         }
         for (int seed = 0; seed < 3 * runs; seed++) {
-            new ReferenceTest(seed, 12).sparse();
+            new ReferenceTest(seed, 12).lookAtAll();
         }
         Check.end("ReferenceTest");
     }
 
     private void run() {
         both("begin", () -> x.begin(most), () -> y.begin(most));
+        addEdges(most, random.nextInt(2 * most), 9);
         for (int step = 0; step < STEPS; step++) {
             int kind = random.nextInt(100);
             if (kind < 45) {
@@ -45,18 +46,13 @@ public final class ReferenceTest {
         both("digest", x::digest, y::digest);
     }
 
-    /** A graph with few edges, a matching that is not the first one, and a look at everything. */
-    private void sparse() {
+    /** A graph with few or many edges, a matching that is not the first one, and a look at all. */
+    private void lookAtAll() {
         int nodes = 2 + random.nextInt(11);
         both("begin", () -> x.begin(nodes), () -> y.begin(nodes));
-        int edges = random.nextInt(2 * nodes);
-        for (int edge = 0; edge < edges; edge++) {
-            int one = random.nextInt(nodes);
-            int other = random.nextInt(nodes);
-            both("setEdge", () -> x.setEdge(one, other, true), () -> y.setEdge(one, other, true));
-            if (random.nextInt(3) == 0) {
-                both("match", () -> x.match(one, other), () -> y.match(one, other));
-            }
+        addEdges(nodes, random.nextInt(random.nextInt(4) > 0 ? 2 * nodes : 6 * nodes), 3);
+        if (random.nextBoolean()) {
+            matchWherePossible(nodes);
         }
         both("digest", x::digest, y::digest);
         both("meanUse", x::meanUse, y::meanUse);
@@ -67,8 +63,37 @@ public final class ReferenceTest {
                 both("wayNode " + node + " " + at, () -> x.wayNode(asked, at), () -> y.wayNode(asked, at));
             }
         }
+        for (int node = 0; node < nodes; node++) {
+            int asked = node;
+            both("way " + node, () -> x.way(asked), () -> y.way(asked));
+        }
         both("maximize", x::maximize, y::maximize);
         both("digest behind maximize", x::digest, y::digest);
+    }
+
+    private void addEdges(int nodes, int edges, int oneOf) {
+        for (int edge = 0; edge < edges; edge++) {
+            int one = random.nextInt(nodes);
+            int other = random.nextInt(nodes);
+            both("setEdge", () -> x.setEdge(one, other, true), () -> y.setEdge(one, other, true));
+            if (random.nextInt(oneOf) == 0) {
+                both("match", () -> x.match(one, other), () -> y.match(one, other));
+            }
+        }
+    }
+
+    /** Leaves no edge between exposed nodes, so that the ways that are left are long. */
+    private void matchWherePossible(int nodes) {
+        int turn = random.nextInt(nodes);
+        for (int node = 0; node < nodes; node++) {
+            for (int after = 1; after <= nodes / 2; after++) {
+                int one = (node * 5 + turn) % nodes;
+                int other = (one + after) % nodes;
+                if (y.edge(one, other, 0) == 1) {
+                    both("match", () -> x.match(one, other), () -> y.match(one, other));
+                }
+            }
+        }
     }
 
     private void both(String what, Check.Call mine, Check.Call theirs) {

@@ -83,6 +83,7 @@ public final class StateTest {
     private static void critical() {
         Check.due("a triangle", Check.made(3, "ab,bc,ac").count(8), 1);
         Check.due("a path of 3", Check.made(3, "ab,bc").count(8), 0);
+        Check.due("a path of 3 with node 0 amidst", Check.made(3, "ab,ac").count(8), 0);
         Check.due("a cycle of 5", Check.made(5, "ab,bc,cd,de,ae").count(8), 1);
         Check.due("a cycle of 4", Check.made(4, "ab,bc,cd,ad").count(8), 0);
         Check.due("two triangles with a node in common", Check.made(5, "ab,bc,ac,cd,de,ce").count(8), 1);
