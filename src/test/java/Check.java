@@ -7,15 +7,31 @@ final class Check {
         Object run();
     }
 
+    static final String NO_INDEX = "throws.IndexOutOfBoundsException";
+    static final String NO_ARGUMENT = "throws.IllegalArgumentException";
+    static final String NO_STATE = "throws.IllegalStateException";
+
     private static int wrong = 0;
+    private static int done = 0;
+    private static String at = "";
 
     private Check() {
     }
 
+    /** Says what stands ahead of the names of the checks from here on. */
+    static void at(String place) {
+        at = place;
+    }
+
+    static int done() {
+        return done;
+    }
+
     static void due(String what, Object got, Object want) {
+        done++;
         if (!Objects.equals(got, want)) {
             wrong++;
-            System.out.println(what + " answered " + got + ", due is " + want);
+            System.out.println(at + what + " answered " + got + ", due is " + want);
         }
     }
 
