@@ -331,6 +331,12 @@ final class EditSentences {
         new Scene(4, "ab,ac,bd").edits("none", 2, " ab ac! bd!", MatchingGraph::takeFirst);
         new Scene(4, "ab!,cd!,bc").edits("the first one", 0, " ab! bc cd!", MatchingGraph::takeFirst);
 
+        MatchingGraph taken = Check.made(4, "ab,bc!,cd,ad");
+        taken.takeFirst();
+        taken.unmatch(0);
+        Check.due("the first one stays behind unmatch", taken.firstMate(0), 1);
+        Scene.isLikeNew("behind takeFirst and unmatch", taken, "ab,bc,cd!,ad");
+
         doc.says("This is an edit");
         new Scene(2, "").edits("without edges", 0, "", MatchingGraph::takeFirst);
         new Scene(2, "ab!").edits("of the first one", 0, " ab!", MatchingGraph::takeFirst);
@@ -368,6 +374,8 @@ final class EditSentences {
         Check.due("as before all", State.edges(x), "5:");
         Check.due("none is kept any more", x.count(10), 0);
 
+        answersBehindUndo();
+
         doc.says("Returns how many edits are still kept");
         for (int edits = 1; edits <= 6; edits++) {
             MatchingGraph y = new MatchingGraph();
@@ -379,6 +387,31 @@ final class EditSentences {
                 Check.due("kept", y.count(10), left);
             }
         }
+    }
+
+    /** What was found out of another graph is not told of this one. */
+    private static void answersBehindUndo() {
+        MatchingGraph x = Check.made(4, "bc!");
+        Scene.isLikeNew("at first", x, "bc!");
+        x.setEdge(0, 1, true);
+        x.setEdge(0, 1, true);
+        x.undo();
+        Scene.isLikeNew("behind an edit that changed nothing, undone", x, "bc!,ab");
+        x.undo();
+        Scene.isLikeNew("behind an edit undone", x, "bc!");
+        x.setEdge(2, 3, true);
+        Scene.isLikeNew("behind another edit", x, "bc!,cd");
+        MatchingGraph y = Check.made(4, "ab!,cd!");
+        y.count(3);
+        y.setEdge(0, 1, false);
+        Scene.isLikeNew("behind an edge taken away", y, "cd!");
+        y.undo();
+        Scene.isLikeNew("behind an edge brought back", y, "ab!,cd!");
+        y.begin(4);
+        Scene.isLikeNew("behind begin", y, "");
+        Check.type(y, "bd!,ab");
+        y.load();
+        Scene.isLikeNew("behind load", y, "bd!,ab");
     }
 
     private static void undoBesideOthers(Doc doc) {

@@ -90,11 +90,21 @@ record Scene(int nodes, String text, String typed) {
 
     /** All that can be seen of an object, also behind each undo. */
     private static String whole(MatchingGraph x) {
-        StringBuilder text = new StringBuilder(State.of(x));
+        StringBuilder text = new StringBuilder(State.of(x)).append(' ').append(State.edges(x));
         for (int left = x.count(10); left > 0; left--) {
             text.append(" undo ").append(x.undo()).append(' ').append(x.digest());
         }
         return text.toString();
+    }
+
+    /** Tests that an object with these edges answers like a new one, but for the edits that are kept. */
+    static void isLikeNew(String name, MatchingGraph x, String text) {
+        List<Integer> answers = State.values(x, "");
+        List<Integer> fresh = State.values(Check.made(x.count(0), text), "");
+        int kept = 10;
+        answers.set(kept, 0);
+        fresh.set(kept, 0);
+        Check.due("what is there " + name, answers, fresh);
     }
 
     /** Numbers of nodes that do not exist: beside the bounds, and those that wrap around in shifts. */

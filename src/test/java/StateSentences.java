@@ -1,5 +1,4 @@
 import java.math.BigInteger;
-import java.util.ArrayList;
 import java.util.List;
 
 /** A test for each sentence of the promises 22 to 27. */
@@ -31,8 +30,9 @@ final class StateSentences {
     }
 
     private static void property(MatchingGraph x, int what, int... want) {
+        String edges = State.edges(x);
         for (int node = 0; node < want.length; node++) {
-            Check.due("node(" + node + ", " + what + ") of " + State.edges(x), x.node(node, what), want[node]);
+            Check.due("node(" + node + ", " + what + ") of " + edges, x.node(node, what), want[node]);
         }
     }
 
@@ -180,8 +180,9 @@ final class StateSentences {
     }
 
     private static void counts(MatchingGraph x, int... want) {
+        String edges = State.edges(x);
         for (int what = 0; what < want.length; what++) {
-            Check.due("count(" + what + ") of " + State.edges(x), x.count(what), want[what]);
+            Check.due("count(" + what + ") of " + edges, x.count(what), want[what]);
         }
     }
 
@@ -241,6 +242,8 @@ final class StateSentences {
         differs("a cycle of 4", Check.made(4, "ab,bc!,cd,ad!"), 1, 0);
         differs("a cycle of 6", Check.made(6, "ab,bc!,cd,de!,ef,af!"), 1, 0);
         differs("a cycle of 12", Check.made(12, "ab,bc!,cd,de!,ef,fg!,gh,hi!,ij,jk!,kl,al!"), 1, 0);
+        differs("a cycle with nodes beside it", Check.made(12, "bd,dh!,hk,bk!"), 1, 0);
+        differs("a path with nodes beside it", Check.made(12, "bd,dh!,hk"), 0, 1);
         differs("edges of the graph that are in none", Check.made(4, "ab!,bc,cd!,ad"), 0, 0);
 
         doc.says("`what`: 0 for the number of these cycles, 1 for the number of these paths with at least one edge");
@@ -288,6 +291,8 @@ final class StateSentences {
         Check.due("a cycle of 7", Check.made(7, "ab,bc,cd,de,ef,fg,ag").meanUse(), 21.0 / 49);
         Check.due("all pairs of 11", Check.complete(11).meanUse(), 51975.0 / 571725);
         Check.due("all pairs of 12", Check.complete(12).meanUse(), 62370.0 / 686070);
+        // Here 6.0 / 5 / 3 and the mean of what each edge has would be rounded to less.
+        Check.due("divided once", Check.made(5, "ab,ac,ae,bd,be").meanUse(), 6.0 / 15);
         MatchingGraph x = Check.made(2, "ab");
         x.setEdge(0, 1, false);
         Check.due("no edges any more", x.meanUse(), 0.0);
@@ -320,7 +325,7 @@ final class StateSentences {
         for (int graph = 0; graph < graphs.length; graph++) {
             MatchingGraph x = Check.made(nodes[graph], graphs[graph]);
             Check.type(x, "ab,~ ");
-            Check.due("digest of " + graphs[graph], x.digest(), overflowed(values(x, "ab,~ ")));
+            Check.due("digest of " + graphs[graph], x.digest(), overflowed(State.values(x, "ab,~ ")));
         }
 
         doc.says("The values are, in this order: count for 0 to 10; for each node its properties 0 to 4");
@@ -328,40 +333,13 @@ final class StateSentences {
             for (String text : new String[] {"", "~", "ab!", " !".repeat(30)}) {
                 MatchingGraph x = Check.made(nodes[graph], graphs[graph]);
                 Check.type(x, text);
-                Check.due("digest of " + graphs[graph] + " and '" + text + "'", x.digest(), wrapped(values(x, text)));
+                Check.due("digest of " + graphs[graph] + " and '" + text + "'", x.digest(), wrapped(State.values(x, text)));
             }
         }
     }
 
     private static void differ(String what, long one, long other) {
         Check.due(what + " count", one != other, true);
-    }
-
-    private static List<Integer> values(MatchingGraph x, String typed) {
-        List<Integer> found = new ArrayList<>();
-        for (int what = 0; what <= 10; what++) {
-            found.add(x.count(what));
-        }
-        int nodes = x.count(0);
-        for (int node = 0; node < nodes; node++) {
-            for (int what = 0; what <= 4; what++) {
-                found.add(x.node(node, what));
-            }
-            found.addAll(List.of(x.firstMate(node), x.reach(node, true), x.reach(node, false)));
-            if (x.node(node, 1) == MatchingGraph.NONE) {
-                found.add(x.way(node));
-            }
-        }
-        for (int one = 0; one < nodes; one++) {
-            for (int other = one + 1; other < nodes; other++) {
-                found.addAll(List.of(x.edge(one, other, 0), x.edge(one, other, 1), x.edge(one, other, 2)));
-            }
-        }
-        found.addAll(List.of(x.proof(), x.oddCycle(), x.difference(0), x.difference(1), typed.length()));
-        for (char code : typed.toCharArray()) {
-            found.add((int) code);
-        }
-        return found;
     }
 
     /** The hash without bounds, of which the lowest 64 bits are left. */

@@ -12,8 +12,9 @@ public final class StateTest {
     }
 
     private static void property(MatchingGraph x, int what, int... want) {
+        String edges = State.edges(x);
         for (int node = 0; node < want.length; node++) {
-            Check.due("node(" + node + ", " + what + ") of " + State.edges(x), x.node(node, what), want[node]);
+            Check.due("node(" + node + ", " + what + ") of " + edges, x.node(node, what), want[node]);
         }
     }
 
@@ -62,8 +63,9 @@ public final class StateTest {
     }
 
     private static void counts(MatchingGraph x, int... want) {
+        String edges = State.edges(x);
         for (int what = 0; what < want.length; what++) {
-            Check.due("count(" + what + ") of " + State.edges(x), x.count(what), want[what]);
+            Check.due("count(" + what + ") of " + edges, x.count(what), want[what]);
         }
     }
 

@@ -79,6 +79,7 @@ final class TermSentences {
         MatchingGraph flower = Check.made(5, "ab,bc!,cd,de!,ce");
         Check.due("no path comes back to c", flower.reach(0, false), Check.set("bde"));
         Check.due("no path goes back from c to b", flower.reach(0, true), Check.set("acde"));
+        Check.due("no way there and back", Check.made(8, "ab,bc!,cd,de!,ce,bf,gh!").way(0), 0);
         Check.due("no step without an edge", Check.made(6, "ab,bc!,de!,ef").reach(0, false), Check.set("b"));
 
         doc.says("A cycle is a path with at least 3 nodes whose last node is adjacent to its first one");
@@ -203,6 +204,7 @@ final class TermSentences {
         Check.due("less in the middle", way(Check.made(10, "ab,bc!,ce,ef!,fg,cd,dh!,hi"), 0), "abcdhi");
         Check.due("not less from the other end", way(Check.made(8, "ab,bf!,fh,ac,cd!,de"), 4), "edca");
         Check.due("the longer way round a cycle", way(Check.made(6, "ab,bc!,cd,de!,ae,bf"), 0), "aedcbf");
+        Check.due("through pairs in another order", way(Check.made(6, "ab!,ac,bf,ce!,cd,be,de"), 3), "decabf");
         Check.due("through either end of a pair, the less one", way(Check.made(6, "ab,ac,bc!,bd,ce"), 0), "abce");
         Check.due("between equal ones, to the less end", way(Check.made(6, "ac,ad,cd!,bc,de"), 0), "acde");
     }
