@@ -1,23 +1,15 @@
+import java.io.IOException;
 import java.lang.reflect.Constructor;
 import java.lang.reflect.Field;
 import java.lang.reflect.Method;
 import java.lang.reflect.Modifier;
 import java.util.Arrays;
+import java.util.List;
 import java.util.TreeSet;
 
 /** The public face: the constant, the constructor and the methods of the document, and no other. */
 public final class FaceTest {
-    private static final String[] METHODS = {
-        "int begin(int)", "int setEdge(int, int, boolean)", "int append(int)", "int clearInput()",
-        "int firstError()", "int load()", "int match(int, int)", "int unmatch(int)", "int augment(int)",
-        "int maximize()", "int takeFirst()", "int undo()", "int way(int)", "int wayNode(int, int)",
-        "int reach(int, boolean)", "int oddCycle()", "int firstMate(int)", "int proof()",
-        "int components(int, boolean)", "int ifChanged(int, int)", "int node(int, int)",
-        "int edge(int, int, int)", "int count(int)", "int difference(int)", "double meanUse()",
-        "long digest()",
-    };
-
-    public static void main(String[] args) {
+    public static void main(String[] args) throws IOException {
         Class<?> face = MatchingGraph.class;
         Check.due("the class is public and final", face.getModifiers(), Modifier.PUBLIC | Modifier.FINAL);
         Check.due("NONE", MatchingGraph.NONE, -1);
@@ -40,7 +32,7 @@ public final class FaceTest {
         Check.end("FaceTest");
     }
 
-    private static void methods(Class<?> face) {
+    private static void methods(Class<?> face) throws IOException {
         TreeSet<String> seen = new TreeSet<>();
         TreeSet<String> names = new TreeSet<>();
         TreeSet<String> hidden = new TreeSet<>();
@@ -50,14 +42,22 @@ public final class FaceTest {
             } else {
                 Check.due(method + " is public", Modifier.isPublic(method.getModifiers()), true);
                 Check.due(method + " is of an object", Modifier.isStatic(method.getModifiers()), false);
-                String types = Arrays.toString(method.getParameterTypes());
-                seen.add(method.getReturnType() + " " + method.getName() + "("
-                        + types.substring(1, types.length() - 1) + ")");
+                seen.add(method.getReturnType() + " " + method.getName() + names(method.getParameterTypes())
+                        + " throws " + names(method.getExceptionTypes()));
                 names.add(method.getName());
             }
         }
-        Check.due("methods", seen, new TreeSet<>(Arrays.asList(METHODS)));
+        TreeSet<String> due = new TreeSet<>();
+        for (DocFace.Call call : DocFace.calls()) {
+            due.add(call.type() + " " + call.name() + call.types() + " throws " + call.exceptions());
+        }
+        Check.due("the document shows so many calls", due.size(), 26);
+        Check.due("methods", seen, due);
         hidden.retainAll(names);
         Check.due("private methods with a public name", hidden.toString(), "[]");
+    }
+
+    private static List<String> names(Class<?>[] types) {
+        return Arrays.stream(types).map(Class::getSimpleName).toList();
     }
 }
